@@ -466,7 +466,8 @@ public final class ShakenTree {
         /** Takes a closed program; the member row stays as it is until the next shake, for newNumber. */
         void rebuild(Program from, Program to) {
             forget();
-            keepAll(from);
+            keepEntries(from);
+            keepReached(from);
             closeUpAll(from);
             lookAtNames(from);
             giveNames();
@@ -484,15 +485,23 @@ public final class ShakenTree {
             foundSize = 0;
         }
 
-        private void keepAll(Program from) {
+        private void keepEntries(Program from) {
             for (int m = 0; m < from.size; m++) {
                 if (from.members[m].isEntry) {
                     keepMember(from, m);
                 }
             }
+        }
+
+        private void keepReached(Program from) {
             // The row grows while it is walked, but no member comes into it twice.
             for (int k = 0; k < foundSize && k < MOST_MEMBERS; k++) {
-                keepNeedsOf(from, from.members[found[k]]);
+                Member member = from.members[found[k]];
+                for (int i = 0; i < member.length; i++) {
+                    if (usesConstant(member.whats[i])) {
+                        keepConstant(from, member.owner, member.numbers[i]);
+                    }
+                }
             }
         }
 
@@ -506,14 +515,6 @@ public final class ShakenTree {
             constantTo[kept.owner][kept.namePlace] = KEPT;
             found[foundSize] = member;
             foundSize++;
-        }
-
-        private void keepNeedsOf(Program from, Member member) {
-            for (int k = 0; k < member.length; k++) {
-                if (usesConstant(member.whats[k])) {
-                    keepConstant(from, member.owner, member.numbers[k]);
-                }
-            }
         }
 
         private void keepConstant(Program from, int owner, int place) {

@@ -117,6 +117,7 @@ public final class RunTest {
         gives("DIV of both", operation(DIV), -7, -2, 3);
         gives("DIV wraps", operation(DIV), Integer.MIN_VALUE, -1, Integer.MIN_VALUE);
         gives("DIV of 0", operation(DIV), 0, 5, 0);
+        gives("DIV by 1", operation(DIV), 5, 1, 5);
         fails("DIV by 0", operation(DIV), 5, 0, ARITHMETIC);
         fails("DIV 0 by 0", operation(DIV), 0, 0, ARITHMETIC);
         fails("DIV with a alone missing", code(built(0), 0, PUSH, INT_0, DIV, 0), 0, 0, STATE);

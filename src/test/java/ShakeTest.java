@@ -249,6 +249,25 @@ public final class ShakeTest {
         ShakenTree round = named(1, 5, 4, 3);
         round.shake();
         names("round the entry's", round, 1, 3, 2, 0);
+        round.entry(0, false);
+        round.entry(1, true);
+        round.shake();
+        round.entry(0, true);
+        round.entry(1, false);
+        round.shake();
+        names("nothing is left of the shake before", round, 1, 3, 2, 0);
+        round.clear();
+        round.add();
+        round.constant(0, 1, 9, 0);
+        round.constant(0, 1, 8, 0);
+        round.constant(0, 2, 0, 0);
+        round.constant(0, 3, 2, 1);
+        round.member(0, 0, 0);
+        round.member(0, 1, -1);
+        round.code(0, 1, 3);
+        round.entry(0, true);
+        round.shake();
+        names("nor of its names", round, 9, 0);
     }
 
     private static void namesOfEntriesStay() {
