@@ -7,14 +7,15 @@ import java.util.function.IntSupplier;
  * shake, every kept method must do the same in both programs. The runs are the same every time.
  */
 public final class TwinTest {
-    private static final int OBJECTS = 3000;
-    private static final int CALLS = 512;
+    private static final int OBJECTS = 6000;
 
     private long seed;
     /** Whether this run fills the program with names and members, and never clears it. */
     private boolean filling;
     private ShakenTree tree;
     private Twin twin;
+    /** How many calls the tree has had: what it answers to a 513th is free. */
+    private int calls;
     private final Map<String, Integer> seen = new TreeMap<>();
     private int wrong = 0;
 
@@ -39,9 +40,10 @@ public final class TwinTest {
         filling = run % 4 == 0;
         tree = new ShakenTree();
         twin = new Twin();
+        calls = 0;
         int start = below(40) + 10;
-        for (int call = 0; call < CALLS && wrong < 20; call++) {
-            if (call < start) {
+        while (calls < Story.MOST_CALLS && wrong < 20) {
+            if (calls < start) {
                 build();
             } else {
                 any();
@@ -66,6 +68,10 @@ public final class TwinTest {
     }
 
     private void alike(String call, IntSupplier mine, IntSupplier theirs) {
+        if (calls == Story.MOST_CALLS) {
+            return;
+        }
+        calls++;
         String got = answer(mine);
         String want = answer(theirs);
         String kind = got.startsWith("answers") ? "answers" : got;
@@ -229,8 +235,13 @@ public final class TwinTest {
 
     private void seldom() {
         if (!filling && (below(90) == 0 || twin.fault() != -1 && below(12) == 0)) {
-            tree.clear();
-            twin.clear();
+            alike("clear()", () -> {
+                tree.clear();
+                return 0;
+            }, () -> {
+                twin.clear();
+                return 0;
+            });
             return;
         }
         int m = someMethod(twin.whole);
@@ -251,7 +262,9 @@ public final class TwinTest {
         if (twin.fault() != -1) {
             return;
         }
-        shakenInFull();
+        if (below(4) == 0) {
+            shakenInFull();
+        }
         if (twin.whole.parts.stream().anyMatch(p -> p.entry)) {
             doesTheSame();
         }
@@ -287,12 +300,13 @@ public final class TwinTest {
     }
 
     private void doesTheSame() {
-        for (int m = 0; m < twin.whole.parts.size(); m++) {
+        for (int m = 0; m < twin.whole.parts.size() && calls + 2 <= Story.MOST_CALLS; m++) {
             int old = m;
-            int now = tree.moved(m);
+            int now = twin.moved(m);
             if (now != ShakenTree.NONE && twin.whole.method(m)) {
                 int x = someInt();
                 int y = someInt();
+                calls++;
                 alike("same(" + m + ")", () -> tree.run(true, now, x, y), () -> tree.run(false, old, x, y));
             }
         }
