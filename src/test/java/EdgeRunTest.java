@@ -39,6 +39,7 @@ public final class EdgeRunTest {
         argumentsOfACall();
         pushedNumbers();
         fieldsBeginAt0();
+        meanings();
         additions();
         divisions();
         divisionBy0();
@@ -204,6 +205,21 @@ public final class EdgeRunTest {
             Check.due(which + " run " + k, due, t.run(false, method, 0, 0));
             Check.due(which + " shaken run " + k, due, t.run(true, method, 0, 0));
         }
+    }
+
+    private static void meanings() {
+        Check.sentence("Terms", "A FIELD or METHOD means the field or method of the class that its CLASS says with the name that its NAME says.");
+        Story two = new Story().adds(2).number(0, 10).number(0, 3).classAt(0, 0).classAt(0, 1).name(0, 7).name(0, 8).name(0, 7).name(0, 5)
+                .field(0, 2, 4).field(0, 3, 4).field(0, 3, 5).field(0, 2, 6).method(0, 2, 4).method(0, 3, 4)
+                .number(1, 20).name(1, 8).name(1, 7)
+                .member(0, 7, 0).member(0, 4, -1).member(0, 4, 0).member(1, 1, -1).member(1, 2, 0).member(1, 2, -1)
+                .code(2, PUSH, 1, RETURN, 0).code(4, PUSH, 0, RETURN, 0).entry(0, true);
+        Story set = two.code(0, PUSH, 0, PUT, 8, PUSH, 1, PUT, 9);
+        gives("one name in two classes", set.code(0, GET, 8, GET, 9, SUB, 0, RETURN, 0), 0, 0, 7);
+        gives("another name in one class", set.code(0, GET, 9, GET, 10, SUB, 0, RETURN, 0), 0, 0, 3);
+        gives("two FIELDs that mean one field", set.code(0, GET, 11, GET, 8, SUB, 0, RETURN, 0), 0, 0, 0);
+        gives("a method with a field's name", two.code(0, CALL, 12, RETURN, 0), 0, 0, 3);
+        gives("a method of that name in the other class", two.code(0, CALL, 13, RETURN, 0), 0, 0, 20);
     }
 
     private static Story operation(int what) {
